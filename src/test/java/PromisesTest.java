@@ -193,6 +193,7 @@ public final class PromisesTest {
         mender.retext(0, 6);
         due("4: a keyed isn't, nor is = without a text", Bench.written(mender, 0), "a(b=1,c{d,e<>},f!,g,i{},k<>)");
         BranchMender deep = with("a(b(c(d{e<f>}),g))");
+        due("4: deepest", Bench.written(with(chain(12)), 0), chain(12));
         due("4: closing many", Bench.written(deep, 0), "a(b(c(d{e<f>}),g))");
         due("4: the longest tree", longest(), 30 * 15 + 30 * 2 + 28);
     }
@@ -485,6 +486,8 @@ public final class PromisesTest {
         due("14: nothing changed", Bench.written(deep, 0), "r<a(b(c)),y," + chain(10).replaceFirst("a", "z") + ">");
         due("14: KEY", mender.move(0, 3, 0, 0), Bench.KEY);
         due("14: within a KEYED", mender.move(0, 5, 0, 0), 1);
+        BranchMender last = with("r(b(a),k<a>)");
+        due("14: KEY at the end", last.move(0, 2, 3, 1), Bench.KEY);
         BranchMender both = with("r(a(b(k<z>))," + chain(10).replaceFirst("a", "z") + ")");
         due("14: FULL ahead of KEY", both.move(0, 5, 3, 0), Bench.FULL);
     }
@@ -564,6 +567,9 @@ public final class PromisesTest {
         BranchMender wholes = with("r(a!,b!)", "r(b!,a!)");
         wholes.map(0, 1);
         due("17: WHOLE ones only alike", Bench.pairs(wholes), "0-3 1-5");
+        BranchMender nested = with("r(a(x,y(u,v)),b(z))", "r(b(y(v)),a(x,y(v)),b(w,z))");
+        nested.map(0, 1);
+        due("17: branches under branches", Bench.pairs(nested), "0-8 1-12 2-13 3-14 5-15 6-16 7-18");
     }
 
     private static void pair() {
@@ -651,6 +657,9 @@ public final class PromisesTest {
         for (int q = 4; q < 8; q++) {
             due("22: kind, text, label " + q, bags.same(3, q), 0);
         }
+        for (int q = 0; q < 24; q++) {
+            due("22: again and again", bags.same(0, q % 3), q % 3 == 2 ? 0 : 1);
+        }
         due("22: Tree p", bags.same(8, 8), Bench.BEYOND);
         due("22: Tree q", bags.same(0, -1), Bench.BEYOND);
         bags.clear(1);
@@ -693,6 +702,9 @@ public final class PromisesTest {
         retext(mender, 2, 1, "2");
         mender.take(1, 2);
         relabel(mender, 2, 3, "y");
+        BranchMender kinds = threefold("r(w!,b{x},k<y,z!>)");
+        due("25: all kinds", kinds.merge(0, 1, 2, 3), 0);
+        due("25: as told", Bench.written(kinds, 3), "r(w!,b{x},k<y,z!>)");
         due("25: both hands", mender.merge(0, 1, 2, 3), 0);
         due("25: as told", Bench.written(mender, 3), "r(x=2,y,d,e)");
         due("25: names", Bench.names(mender, 3), "0 1 3 4 5");
@@ -769,6 +781,8 @@ public final class PromisesTest {
         many.put(2, 28, 0, 0, 0);
         due("25: 31 nodes", many.merge(0, 1, 2, 3), 1);
         due("25: what", Bench.clashes(many) + many.size(3), "-1:530");
+        BranchMender deepest = threefold(chain(12));
+        due("25: 11 deep", deepest.merge(0, 1, 2, 3) + deepest.merged(), 12);
         BranchMender chains = threefold("r(" + chain(6) + "," + chain(5).replace('a', 'b') + ")");
         chains.move(1, 7, 6, 0);
         Bench.feed(chains, "m");
@@ -856,10 +870,34 @@ public final class PromisesTest {
         due("27: it is no finding", mender.found(-1), beyonds);
         mender.merge(0, 0, 0, 3);
         due("27: none now", mender.clash(0, 0), Bench.NONE);
+        clashesRise();
         BranchMender moved = threefold("r(a(x),b)");
         moved.move(1, 3, 0, 0);
         moved.move(1, 2, 0, 0);
         due("27: names are those of lists, too", moved.merge(0, 1, 2, 3), 0);
+    }
+
+    private static void clashesRise() {
+        BranchMender mender = threefold("r(a,b,c,d)");
+        mender.move(1, 4, 0, 0);
+        mender.move(1, 2, 0, 3);
+        for (int name = 1; name < 5; name++) {
+            relabel(mender, 1, name, "l");
+            relabel(mender, 2, name, "m");
+        }
+        mender.merge(0, 1, 2, 3);
+        due("27: rising, however the rows stand", Bench.clashes(mender), "1:1 2:1 3:1 4:1");
+        BranchMender most = threefold("r(" + "a(b),".repeat(14) + "c)");
+        for (int name = 0; name < 30; name++) {
+            relabel(most, 1, name, "l");
+            relabel(most, 2, name, "m");
+            retext(most, 1, name, "1");
+            retext(most, 2, name, "2");
+        }
+        most.move(1, 29, 0, 0);
+        most.move(2, 29, 0, 1);
+        due("27: many", most.merge(0, 1, 2, 3), 61);
+        due("27: the last", most.clash(60, 0) * 10 + most.clash(60, 1), 292);
     }
 
     private static void found() {
