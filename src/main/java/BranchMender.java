@@ -1006,14 +1006,34 @@ public final class BranchMender {
             }
             for (int a = noneFirst + 1; a <= x; a++) {
                 forest[a][noneSecond] = forest[a - 1][noneSecond] + takePrice;
-                boolean startsFirst = first.low[a] == first.low[x];
-                for (int b = noneSecond + 1; b <= y; b++) {
-                    if (startsFirst && second.low[b] == second.low[y]) {
-                        under[a][b] = forest[a - 1][b - 1];
-                    }
-                    int unpaired = Math.min(forest[a - 1][b] + takePrice, forest[a][b - 1] + putPrice);
-                    forest[a][b] = Math.min(unpaired, costOfPairing(a, b));
+                if (first.low[a] == first.low[x]) {
+                    keepUnder(a, y, noneSecond);
                 }
+                fillLine(a, y, noneSecond);
+            }
+        }
+
+        /** Where both forests end under a and b, their cost is that of all under a and b. */
+        private void keepUnder(int a, int y, int noneSecond) {
+            for (int b = noneSecond + 1; b <= y; b++) {
+                if (second.low[b] == second.low[y]) {
+                    under[a][b] = forest[a - 1][b - 1];
+                }
+            }
+        }
+
+        private void fillLine(int a, int y, int noneSecond) {
+            // Rows in hand: this is by far the dearest loop of all.
+            int[] line = forest[a];
+            int[] before = forest[a - 1];
+            int[] leftOfFirst = forest[first.low[a] - 1];
+            int[] underFirst = under[a];
+            int[] pairingFirst = pairing[a];
+            int[] low = second.low;
+            for (int b = noneSecond + 1; b <= y; b++) {
+                int paired = leftOfFirst[low[b] - 1] + underFirst[b] + pairingFirst[b];
+                int unpaired = Math.min(before[b] + takePrice, line[b - 1] + putPrice);
+                line[b] = Math.min(paired, unpaired);
             }
         }
 
@@ -1255,17 +1275,13 @@ public final class BranchMender {
                 addClash(NO_NAME, ROOTS);
                 return;
             }
-            if (!isMade(o.name[0])) {
+            boolean whole = comeTo(o.name[0], 0);
+            made.measure();
+            if (!whole || made.hasTwins()) {
                 made.count = 0;
                 addClash(NO_NAME, ALL_LISTS);
             }
             tellClashes();
-        }
-
-        private boolean isMade(int root) {
-            boolean whole = comeTo(root, 0);
-            made.measure();
-            return whole && !made.hasTwins();
         }
 
         /** False as soon as there can be no tree. */
