@@ -10,22 +10,34 @@ final class Bench {
     static final int NONE = -6;
     static final int ROOT = -7;
 
+    static final int MIN = Integer.MIN_VALUE;
+    static final int MAX = Integer.MAX_VALUE;
+
     private static int wrong = 0;
+    private static int sentences = 0;
+    private static String heading = "";
 
     private Bench() {
+    }
+
+    /** What is due from here on is what this sentence of the document asks. */
+    static void sentence(String words) {
+        sentences++;
+        heading = words + " | ";
     }
 
     static void due(String call, Object got, Object want) {
         if (!got.equals(want)) {
             wrong++;
             if (wrong <= 50) {
-                System.out.println(call + " answered " + got + ", due is " + want);
+                System.out.println(heading + call + " answered " + got + ", due is " + want);
             }
         }
     }
 
     static void end(String what) {
-        System.out.println(what + ": " + (wrong == 0 ? "all answers are as due" : wrong + " answers are not as due"));
+        String tested = sentences == 0 ? what : what + ", " + sentences + " sentences";
+        System.out.println(tested + ": " + (wrong == 0 ? "all answers are as due" : wrong + " answers are not as due"));
         if (wrong != 0) {
             System.exit(1);
         }
@@ -55,6 +67,56 @@ final class Bench {
     static int read(BranchMender mender, int p, String text) {
         feed(mender, text);
         return mender.read(p);
+    }
+
+    /** A new object with trees at its places from 0 on. */
+    static BranchMender with(String... texts) {
+        BranchMender mender = new BranchMender();
+        for (int p = 0; p < texts.length; p++) {
+            int count = read(mender, p, texts[p]);
+            if (count < 1) {
+                due("read of " + texts[p], count, "a tree");
+            }
+        }
+        return mender;
+    }
+
+    /** A new object with one tree at places 0, 1 and 2: an origin and what two hands have of it. */
+    static BranchMender threefold(String text) {
+        BranchMender mender = with(text);
+        mender.copy(0, 1);
+        mender.copy(0, 2);
+        return mender;
+    }
+
+    /** Nodes that each are the only child of the one ahead. */
+    static String chain(int nodes) {
+        return "a(".repeat(nodes - 1) + "a" + ")".repeat(nodes - 1);
+    }
+
+    /** A root with all other nodes as its children. */
+    static String flat(int nodes) {
+        return "r(" + "c,".repeat(nodes - 2) + "c)";
+    }
+
+    static int relabel(BranchMender mender, int p, int name, String label) {
+        feed(mender, label);
+        return mender.relabel(p, name);
+    }
+
+    static int retext(BranchMender mender, int p, int name, String text) {
+        feed(mender, text);
+        return mender.retext(p, name);
+    }
+
+    /** Of tree 0; the rest is the name, the kind, from and n. */
+    static int put(BranchMender mender, String label, int... rest) {
+        return putAt(mender, 0, label, rest);
+    }
+
+    static int putAt(BranchMender mender, int p, String label, int... rest) {
+        feed(mender, label);
+        return mender.put(p, rest[0], rest[1], rest[2], rest[3]);
     }
 
     static String written(BranchMender mender, int p) {
