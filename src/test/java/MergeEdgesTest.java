@@ -185,6 +185,15 @@ public final class MergeEdgesTest {
         BranchMender deeper = Bench.threefold("r(a,b)");
         deeper.move(L, 2, 1, 0);
         dueMerge(deeper, "", "r(a(b))");
+        Bench.putAt(deeper, R, "n", 1, 0, 0, 0);
+        dueMerge(deeper, "1:3", "r(a)");
+        BranchMender widest = Bench.threefold(Bench.flat(30));
+        widest.move(L, 29, 0, 0);
+        Bench.due("lists of 29", widest.merge(O, L, R, TO) + widest.merge(O, R, L, TO), 0);
+        Bench.due("the one that was moved", widest.node(TO, 1, 0), 29);
+        widest.move(R, 29, 0, 27);
+        Bench.due("the last two alone differ", widest.merge(O, L, R, TO), 1);
+        Bench.due("O's list", widest.node(TO, 29, 0), 29);
     }
 
     private static void emptyLists() {

@@ -18,6 +18,7 @@ public final class PriceEdgesTest {
         mappingLeavesXFirst();
         mappingUnderAPair();
         mappingNoneLeft();
+        mappingOfFullTrees();
         mendingOrder();
         mendingRoots();
         mapTillTheNext();
@@ -33,6 +34,7 @@ public final class PriceEdgesTest {
         sameRefused();
         unlike();
         shared();
+        comparedAgainAndAgain();
         Bench.end("edges of prices and comparisons");
     }
 
@@ -231,12 +233,38 @@ public final class PriceEdgesTest {
         dueMapping(Bench.with("r", "r(a,b(c))"), "0-1", "P2/3 P4/3 P3/3");
         dueMapping(Bench.with("r", "s(r)"), "0-2", "P1/3");
         dueMapping(Bench.with("s(r)", "r"), "1-2", "T0/3");
+        dueMapping(Bench.with("r(p,q{})", "q{}"), "2-3", "T0/3 T1/3");
+        dueMapping(Bench.with("q{}", "r(p,q{})"), "0-3", "P2/3 P1/3");
         BranchMender inside = Bench.with("r", "s(r)");
         inside.price(0, 0);
         dueMapping(inside, "0-1", "L0/0 P2/3");
         BranchMender around = Bench.with("s(r)", "r");
         around.price(0, 0);
         dueMapping(around, "0-2", "T1/3 L0/0");
+    }
+
+    private static void mappingOfFullTrees() {
+        Bench.sentence("going from their last nodes BEHIND back");
+        BranchMender longest = Bench.with("r(z!," + "a,".repeat(27) + "w!)", "r(z!,w!," + "b{},".repeat(26) + "b{})");
+        Bench.due("the longest way back", longest.map(0, 1), 3);
+        Bench.due("pairs", Bench.pairs(longest), "0-30 1-31 29-32");
+        Bench.due("acts", longest.acts(), 2 * 27);
+        BranchMender smaller = Bench.with("r(a{x!,y!},b{z!})", "r(a{x!,y!},b{z!})", "b{y!,x!}", "b{x!}");
+        Bench.due("six pairs", smaller.map(0, 1), 6);
+        Bench.due("then fewer", smaller.map(2, 3), 2);
+        Bench.due("none of those before", Bench.pairs(smaller) + " " + Bench.acts(smaller), "12-15 14-16 T13/3");
+        BranchMender none = Bench.with("a(b,c=1)", "x=2(c,d(e))", "w!");
+        none.map(0, 1);
+        none.map(0, 0);
+        Bench.due("then none at all", none.map(0, 2) + Bench.acts(none), "0T0/3 T1/3 T2/3 P7/3");
+        BranchMender inside = Bench.with("a=1{b,a=1(a)}", "a(b{b(b{})})");
+        inside.price(2, 1);
+        dueMapping(inside, "2-4 3-6", "T0/3 T1/3 X2/1 L3/2 P7/1 P5/1");
+        Bench.due("their price", inside.distance(0, 1), 11);
+        Bench.sentence("pairs nodes of the one with nodes of the other one, each at most once");
+        Bench.due("one for two", distance("r(w!,w!)", "r(w!)"), 3);
+        Bench.due("two for one", distance("r(w!)", "r(w!,w!)"), 3);
+        Bench.due("one for 29", distance("r(w!)", "r(" + "w!,".repeat(28) + "w!)"), 28 * 3);
     }
 
     private static void mendingOrder() {
@@ -512,5 +540,27 @@ public final class PriceEdgesTest {
         Bench.due("p empty", mender.shared(7, 0), Bench.NOTHING);
         Bench.due("q above", mender.shared(0, 8), Bench.BEYOND);
         Bench.due("q empty", mender.shared(0, 7), Bench.NOTHING);
+    }
+
+    private static void comparedAgainAndAgain() {
+        Bench.sentence("SAME: two nodes are the same if .. (of full trees, whatever was compared before)");
+        BranchMender mender = Bench.with(UNLIKE, UNLIKE.replace("ad", "ae"), Bench.flat(30), "r{b,a}", "r{a,b}");
+        for (int round = 0; round < 4; round++) {
+            Bench.due("unlike of 30", mender.unlike(0), 30);
+            Bench.due("unlike of 2", mender.unlike(2), 2);
+            Bench.due("shared but for one and the root", mender.shared(0, 1), 28);
+            Bench.due("shared, one kind of leaf", mender.shared(2, 0), 29);
+            Bench.due("not the same", mender.same(0, 1), 0);
+            Bench.due("the same", mender.same(3, 4), 1);
+        }
+        BranchMender onlySame = Bench.with(UNLIKE, UNLIKE.replace("ad", "ae"), "r{b(d),a}", "r{a,b(d)}");
+        BranchMender onlyUnlike = Bench.with(UNLIKE, UNLIKE.replace("ad", "ae"));
+        BranchMender onlyShared = Bench.with(UNLIKE, UNLIKE.replace("ad", "ae"));
+        for (int round = 0; round < 4; round++) {
+            Bench.due("not the same", onlySame.same(0, 1) + onlySame.same(1, 2), 0);
+            Bench.due("the same", onlySame.same(2, 3), 1);
+            Bench.due("unlike", onlyUnlike.unlike(round % 2), 30);
+            Bench.due("shared", onlyShared.shared(round % 2, 1 - round % 2), 28);
+        }
     }
 }

@@ -8,6 +8,8 @@ public final class TreeEdgesTest {
         eightPlaces();
         oneToThirtyNodes();
         labelsAndTexts();
+        wholesHaveNoChildren();
+        keyedLabelsAreUnlike();
         aheadAndBehindFromZero();
         namesThatNoNodeEverHad();
         newObject();
@@ -94,6 +96,37 @@ public final class TreeEdgesTest {
             Bench.due("text of " + p, texts.node(p, 0, 8), lengths[p]);
         }
         Bench.due("eight signs", Bench.written(texts, 5), "a=a0z9a0z9");
+    }
+
+    private static void wholesHaveNoChildren() {
+        Bench.sentence("A WHOLE has no children");
+        BranchMender mender = Bench.with("r(w!,a)", "w!");
+        Bench.due("none", mender.node(0, 1, 2) + mender.node(1, 0, 2), 0);
+        Bench.due("none by read()", Bench.read(mender, 2, "w!(a)"), -12);
+        Bench.due("none by put()", Bench.put(mender, "n", 1, 0, 0, 0), Bench.KIND);
+        Bench.due("none by put() to a root", Bench.putAt(mender, 1, "n", 3, 0, 0, 0), Bench.KIND);
+        Bench.due("none by move()", mender.move(0, 2, 1, 0), Bench.KIND);
+        Bench.due("it may be a child", Bench.put(mender, "n", 0, 0, 0, 1), 4);
+        Bench.due("as told", Bench.written(mender, 0), "r(n(w!),a)");
+    }
+
+    private static void keyedLabelsAreUnlike() {
+        Bench.sentence("those of a KEYED have unlike labels");
+        BranchMender mender = Bench.with("r<a,b(a),c(d,d)>");
+        Bench.due("by read()", Bench.read(mender, 1, "r<a,b,a>"), -16);
+        Bench.due("by relabel()", Bench.relabel(mender, 0, 1, "b"), Bench.KEY);
+        Bench.due("by put()", Bench.put(mender, "a", 0, 0, 0, 0), Bench.KEY);
+        Bench.due("by take()", mender.take(0, 2), Bench.KEY);
+        Bench.due("by take(), two of one", mender.take(0, 4), Bench.KEY);
+        Bench.due("by move()", mender.move(0, 3, 0, 0), Bench.KEY);
+        Bench.due("none of these", Bench.written(mender, 0), "r<a,b(a),c(d,d)>");
+        BranchMender full = Bench.with("r<a,b,d,e,f,g,h,i,j,k,l,m,n,o,p,q,r,s,t,u,v,w,x,y,z,aa,ab,ac,ad>");
+        Bench.due("the last of 29", Bench.relabel(full, 0, 29, "a"), Bench.KEY);
+        Bench.due("the first of 29", Bench.relabel(full, 0, 1, "ad"), Bench.KEY);
+        Bench.due("unlike all 28 others", Bench.relabel(full, 0, 29, "c"), 1);
+        Bench.due("one that became free", Bench.relabel(full, 0, 1, "ad"), 2);
+        BranchMender last = Bench.with("r(" + "c,".repeat(27) + "k<a>)");
+        Bench.due("a KEYED at the end of 30", Bench.relabel(last, 0, 29, "b"), 1);
     }
 
     private static void aheadAndBehindFromZero() {
@@ -298,6 +331,8 @@ public final class TreeEdgesTest {
         BranchMender mender = Bench.with("z", "abcdef=12345678(b)", Bench.chain(12), Bench.flat(30));
         Bench.due("the root", mender.node(1, 0, 4), -8);
         Bench.due("its child", mender.node(1, 1, 4), 1);
+        Bench.due("the last child of many", mender.node(3, 29, 4), 15);
+        Bench.due("the deepest", mender.node(2, 11, 4), 13);
         for (int finding = -9; finding < 0; finding++) {
             Bench.due("no finding " + finding, finding == -8 ? 0 : mender.found(finding), 0);
         }
@@ -313,6 +348,11 @@ public final class TreeEdgesTest {
         Bench.due("longest text", mender.node(1, 0, 8), 8);
         Bench.due("shortest label", mender.node(1, 1, 7), 1);
         Bench.due("no text", mender.node(1, 1, 8), 0);
+        BranchMender behind = Bench.with("a(b(c,d),e(f),g)");
+        int[] parents = {-8, 0, 1, 1, 0, 4, 0};
+        for (int i = 0; i < parents.length; i++) {
+            Bench.due("parent of " + i, behind.node(0, i, 4), parents[i]);
+        }
         Bench.sentence("0 its name, 1 its kind");
         BranchMender kinds = Bench.with("a(b{},c<>,d!)");
         for (int i = 0; i < 4; i++) {
