@@ -46,9 +46,10 @@ public final class BranchMender {
     private static final long NO_WORD = -1L;
 
     private final Tree[] places = new Tree[PLACES];
-    private final Tree trial = new Tree();
-    private final Tape tape = new Tape();
-    private final Reader reader = new Reader(tape, trial);
+    // The reader's own rows are used by all acts: no part is handed out while this object is made.
+    private final Reader reader = new Reader();
+    private final Tape tape = reader.tape;
+    private final Tree trial = reader.tree;
     private final Writer writer = new Writer();
     private final int[] prices = {2, 1, 3, 3};
     private final Aligner aligner = new Aligner();
@@ -751,16 +752,11 @@ public final class BranchMender {
         private static final int DONE = -1;
         private static final int FAILED = -2;
 
-        private final Tape tape;
-        private final Tree tree;
+        final Tape tape = new Tape();
+        final Tree tree = new Tree();
         private final int[] path = new int[DEEPEST + 1];
         private int at;
         private boolean opened;
-
-        Reader(Tape tape, Tree tree) {
-            this.tape = tape;
-            this.tree = tree;
-        }
 
         /** Answers WRONG, or -1 for a tree. */
         int parse() {

@@ -93,7 +93,9 @@ public final class LanguageTest {
         String bare = source.replaceAll("(?s)/\\*.*?\\*/", "").replaceAll("//[^\n]*", "");
         String[] barred = {"\\bthrows?\\b", "\\btry\\b", "\\bcatch\\b", "\\bassert\\b", "\\bsynchronized\\b", "->", "::",
             "\\bimport\\b", "\\bpackage\\b", "Exact\\b", "\\bstatic\\s*\\{", "\\bhashCode\\b", "\\bSystem\\.(?!arraycopy)",
-            "\\bnull\\b", "\\bprotected\\b", "\"", "while \\(true\\)", "for \\(;;\\)"};
+            "\\bnull\\b", "\\bprotected\\b", "\"", "while \\(true\\)", "for \\(;;\\)",
+            // An object that is handed to another one's constructor would be handed out of the one being made.
+            "\\bnew [A-Z]\\w*\\((?!\\))"};
         for (String word : barred) {
             Matcher matcher = Pattern.compile(word).matcher(bare);
             Bench.due("source has " + word, matcher.find(), false);
